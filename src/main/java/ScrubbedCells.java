@@ -158,7 +158,7 @@ public final class ScrubbedCells {
     private static int encode(int value) {
         int word = placeByte(value);
         for (int check = 1; check < BITS; check <<= 1) {
-            // The bit numbered check is the one check bit that only this group has.
+            // The bit numbered check is in no other group, so setting it spoils none.
             if (oddGroup(word, check)) {
                 word |= 1 << check;
             }
