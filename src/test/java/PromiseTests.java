@@ -1,5 +1,6 @@
 // The promises one by one: ordinary inputs, the edges that the document names, and wrong inputs.
-// Every answer due here was worked out from the document's words, not taken from the program.
+// No answer due here was taken from the program: they come from the document's words, the code words
+// of 1, 2, 4, .. 128 from a script apart from it, and 7918 and 3022 from ../shared/tests.
 public final class PromiseTests {
     private static final int BAD = -1;
     private static final int BROKEN = -2;
