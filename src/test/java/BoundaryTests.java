@@ -28,7 +28,13 @@ public final class BoundaryTests {
 
     private static void test(String words, Runnable body) {
         sentence = words;
-        body.run();
+        try {
+            body.run();
+        } catch (RuntimeException thrown) {
+            // No call may throw, and one that does must not hide the sentences behind it.
+            wrong++;
+            System.out.println("\"" + sentence + "\": a call threw " + thrown);
+        }
     }
 
     public static void main(String[] args) {
@@ -262,10 +268,17 @@ public final class BoundaryTests {
             due("scrub(32)", x.scrub(32), 0);
         });
         test("1: Every word is the code word of the byte 0, also when another object's are not", () -> {
-            variedObject();
+            ScrubbedCells earlier = variedObject();
+            int[] before = stateOf(earlier);
             ScrubbedCells x = new ScrubbedCells();
+            ScrubbedCells later = variedObject();
+            later.scrub(3);
             for (int w = 0; w < 16; w++) {
                 due("raw(" + w + ")", x.raw(w), 0);
+            }
+            int[] after = stateOf(earlier);
+            for (int i = 0; i < 17; i++) {
+                due("state " + i + " of an earlier object", after[i], before[i]);
             }
             due("hand()", x.hand(), 0);
         });
